@@ -425,9 +425,13 @@ public final class WindowDesk {
         int energyOfAll() {
             int sum = 0;
             for (int i = 0; i < number; i++) {
-                sum += lasting[i] * need[i];
+                sum += energy(i);
             }
             return sum;
+        }
+
+        int energy(int i) {
+            return lasting[i] * need[i];
         }
     }
 
@@ -567,7 +571,7 @@ public final class WindowDesk {
             setEarly[set] = Math.min(setEarly[rest], early[i]);
             setLate[set] = Math.max(setLate[rest], late[i]);
             setDone[set] = Math.min(setDone[rest], done[i]);
-            setEnergy[set] = setEnergy[rest] + tasks.lasting[i] * tasks.need[i];
+            setEnergy[set] = setEnergy[rest] + tasks.energy(i);
         }
 
         /** NEEDS of all tasks but one that MUST run at a time. */
@@ -784,6 +788,8 @@ public final class WindowDesk {
         private final int[] early = new int[MOST_TASKS];
         private final int[] late = new int[MOST_TASKS];
         private final int[] need = new int[MOST_TASKS];
+        private final int[] order = new int[MOST_TASKS];
+        /** What is needed at each time; all 0 between searches, for each takes away what it filled. */
         private final int[] load = new int[END];
         private int found;
 
@@ -809,29 +815,43 @@ public final class WindowDesk {
             found = 0;
             // Without any the whole tree would be walked for nothing.
             if (isAny()) {
+                putInOrder();
                 countFrom(0);
             }
             return found;
         }
 
-        private void countFrom(int i) {
-            if (i >= tasks.number) {
+        /** Tasks with the most energy first: they leave the others the fewest beginnings to try. */
+        private void putInOrder() {
+            for (int i = 0; i < tasks.number; i++) {
+                int ahead = 0;
+                for (int k = 0; k < tasks.number; k++) {
+                    int more = tasks.energy(k) - tasks.energy(i);
+                    ahead += more > 0 || more == 0 && k < i ? 1 : 0;
+                }
+                order[ahead] = i;
+            }
+        }
+
+        private void countFrom(int depth) {
+            if (depth >= tasks.number) {
                 found++;
                 return;
             }
+            int i = order[depth];
             int open = 0;
             for (int time = Math.max(0, early[i]); time < Math.min(END, late[i]); time++) {
                 open = hasRoom(i, time) ? open + 1 : 0;
-                if (open >= tasks.lasting[i]) {
-                    int beginning = time + 1 - tasks.lasting[i];
-                    fill(i, beginning, need[i]);
-                    countFrom(i + 1);
-                    fill(i, beginning, -need[i]);
-                    if (found >= MOST_SCHEDULES) {
-                        return;
-                    }
+                if (open >= tasks.lasting[i] && found < MOST_SCHEDULES) {
+                    countWith(i, time + 1 - tasks.lasting[i], depth);
                 }
             }
+        }
+
+        private void countWith(int i, int beginning, int depth) {
+            fill(i, beginning, need[i]);
+            countFrom(depth + 1);
+            fill(i, beginning, -need[i]);
         }
 
         int belong(Windows now, int i) {
@@ -901,9 +921,6 @@ public final class WindowDesk {
         }
 
         private boolean isAny() {
-            for (int time = 0; time < END; time++) {
-                load[time] = 0;
-            }
             return isAnyBeside(0, 0);
         }
 

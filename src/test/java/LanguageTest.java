@@ -72,6 +72,16 @@ public final class LanguageTest {
         }
     }
 
+    /** Rows are made with the object, and used again: a call makes none. */
+    private void made(String source) {
+        for (String row : source.split("\n", -1)) {
+            boolean inField = row.matches("\\s+(private )?final .* = new .*;");
+            boolean inConstructor = row.matches("\\s+(images\\[image\\]|ring\\[k\\]) = new Windows\\(\\);");
+            check.due("'" + row.trim() + "' makes an object in a call",
+                row.matches(".*\\bnew\\b.*") && !inField && !inConstructor ? 1 : 0, 0);
+        }
+    }
+
     /** A method opens at four or eight blanks and closes at as many. */
     private void lengths(String source) {
         String[] rows = source.split("\n", -1);
@@ -94,6 +104,7 @@ public final class LanguageTest {
         test.face();
         test.words(bare);
         test.lengths(bare);
+        test.made(bare);
         test.check.end();
     }
 }
