@@ -63,6 +63,21 @@ public final class AsksBoundsTest {
         schedules("c9;t0 10 1 1;t0 10 1 1;t0 10 1 1;t0 9 1 1;", 9000);
     }
 
+    /** What one text left behind in the object must not show in the answers to the next. */
+    private void asksOfOneObject() {
+        sentence = "4: THE TEXT tells all anew: schedules too";
+        WindowDesk x = new WindowDesk();
+        String[] texts = {"c1;t0 4 1 1;t0 4 2 1;t0 9 3 1;", "c1;t0 4 2 1;t0 4 1 1;", "c1;t0 9 3 1;t0 4 2 1;t0 4 1 1;",
+            "c1;t0 5 1 1;t0 5 1 1;t0 5 1 1;t0 5 1 1;t0 5 1 1;", "", "c1;t0 4 2 1;t0 4 1 1;t0 4 1 1;", "t0 16 9 1;"};
+        int[] want = {20, 6, 20, 120, 1, 6, 8};
+        for (int k = 0; k < texts.length; k++) {
+            Check.typeAll(x, texts[k]);
+            x.desk();
+            due("count(3) of " + texts[k], x.count(3), want[k]);
+            due("count(3) of " + texts[k] + " again", x.count(3), want[k]);
+        }
+    }
+
     private void firstSchedule() {
         sentence = "the first (by TASK 0, then 1 ..)";
         firsts("c1;t0 4 2 1;t0 4 2 1;", 0, 2);
@@ -404,6 +419,7 @@ public final class AsksBoundsTest {
         test.roomAtEachTime();
         test.withinWindows();
         test.atMost9999();
+        test.asksOfOneObject();
         test.firstSchedule();
         test.belonging();
         test.shortest();

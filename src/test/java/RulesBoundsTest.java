@@ -368,6 +368,16 @@ public final class RulesBoundsTest {
         x = Check.told(told);
         x.puts(0, 0, 7);
         broken(0);
+        // One is enough, whichever it is.
+        rule("c1;t5 8 1 1;t0 9 9 1;", FIRST, 1);
+        window(0, 8, 8);
+        broken(1);
+        due("tightens(0)", x.tightens(MUST), STATE);
+        due("puts(0, 1, 7)", x.puts(0, 1, 7), STATE);
+        rule("c1;t0 9 9 1;t9 16 1 1;t9 16 1 1;t9 16 1 1;t5 8 1 1;", FIRST, 1);
+        window(4, 8, 8);
+        why(4, 0, FIRST, 1);
+        broken(1);
         rule("c1;t0 1 1 1;t0 1 1 1;t0 16 1 1;", MUST, 3);
         window(0, 1, 1);
         broken(1);
@@ -406,7 +416,11 @@ public final class RulesBoundsTest {
         sentence = "ALL: 0, 1, 2, 3, 0, .. till none changes anything, or it is BROKEN";
         String[] texts = {"c1;t0 4 2 1;t1 4 2 1;t0 10 3 1;", "c1;t0 4 2 1;t1 4 2 1;t0 10 3 1;t3 12 4 1;t2 16 1 1;",
             "c2;t0 4 3 1;t0 4 3 1;t0 10 4 1;t0 16 9 2;", "c1;t0 1 1 1;t0 1 1 1;t0 9 1 1;", "c1;t0 6 3 1;t1 6 2 1;t0 6 2 1;",
-            "c3;t0 5 3 2;t1 6 4 2;t2 9 3 1;t0 12 4 3;t4 16 5 2;", "c1;t0 5 3 1;t1 16 2 1;t2 9 4 1;t0 16 7 1;", "t0 9 1 1;"};
+            "c3;t0 5 3 2;t1 6 4 2;t2 9 3 1;t0 12 4 3;t4 16 5 2;", "c1;t0 5 3 1;t1 16 2 1;t2 9 4 1;t0 16 7 1;", "t0 9 1 1;",
+            // SPAN alone changes something, four times; the other three rules nothing between; and turned round.
+            "c2;t0 7 2 2;t3 11 3 2;t4 9 2 1;t2 8 3 1;", "c2;t9 16 2 2;t5 13 3 2;t7 12 2 1;t8 14 3 1;",
+            // SPAN, EDGE, SPAN and MUST, each for one side; SPAN, MUST, SPAN, which breaks.
+            "c3;t0 8 4 1;t3 10 3 3;t4 7 1 1;t3 12 1 3;", "c2;t1 9 2 2;t0 9 4 1;t1 5 1 2;t2 8 3 2;"};
         for (String text : texts) {
             told = text;
             x = Check.told(text);
