@@ -72,6 +72,18 @@ public final class LanguageTest {
         }
     }
 
+    /** 'Ahead of the calls .. the interface says: ---- ..': each heading, then its calls, in the document's order. */
+    private void headings(String source) {
+        String[] rows = {"// ---- the desk", "type", "clear", "desk", "task", "why", "must", "// ---- what is done", "tightens",
+            "puts", "undo", "// ---- what there is", "wrap", "grey", "odds", "// ---- images", "keep", "back", "count"};
+        int at = 0;
+        for (String row : rows) {
+            int next = source.indexOf(row.startsWith("//") ? row + "\n" : "public int " + row + "(", at);
+            check.due("'" + row + "' stands in its place", next >= at ? 1 : 0, 1);
+            at = Math.max(at, next);
+        }
+    }
+
     /** Rows are made with the object, and used again: a call makes none. */
     private void made(String source) {
         for (String row : source.split("\n", -1)) {
@@ -102,6 +114,7 @@ public final class LanguageTest {
         String source = Files.readString(Path.of("src/main/java/WindowDesk.java"));
         String bare = source.replaceAll("(?s)/\\*.*?\\*/", "").replaceAll("//[^\n]*", "");
         test.face();
+        test.headings(source);
         test.words(bare);
         test.lengths(bare);
         test.made(bare);
